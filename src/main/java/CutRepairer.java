@@ -450,7 +450,13 @@ public final class CutRepairer {
             return NOT_POSSIBLE;
         }
         standing.readCut(now);
-        return repair.find(standing, rules, costs) ? 0 : NONE;
+        if (!repair.layOut(standing, rules, costs)) {
+            return NONE;
+        }
+        for (Flow flow : repair.flows) {
+            flow.balance();
+        }
+        return 0;
     }
 
     private int replay(boolean guarded) {
@@ -1190,14 +1196,14 @@ public final class CutRepairer {
     private static final class Repair {
         final Flow[] flows = {new Flow(), new Flow()};
 
-        boolean find(Standing standing, RuleBook rules, Costs costs) {
+        /** Lays out the flow of each stock; false if there is no repair. */
+        boolean layOut(Standing standing, RuleBook rules, Costs costs) {
             for (int s = 0; s < STOCKS; s++) {
                 flows[s].layOut(standing.processes, costs);
                 if (!obey(rules, standing, s) || !flows[s].canBalance()) {
                     return false;
                 }
                 flows[s].load(standing, s);
-                flows[s].balance();
             }
             return true;
         }
@@ -1438,8 +1444,9 @@ public final class CutRepairer {
         }
 
         void shiftUnits(int u, int v, int units) {
-            if (canTakeBack(u, v)) {
-                amounts[arc(v, u)] -= units;
+            int back = arc(v, u);
+            if (canTakeBack(back)) {
+                amounts[back] -= units;
             } else {
                 amounts[arc(u, v)] += units;
             }
@@ -1447,17 +1454,18 @@ public final class CutRepairer {
 
         /** Taking back comes first, as it never costs anything. */
         int room(int u, int v) {
-            return canTakeBack(u, v)
-                    ? amounts[arc(v, u)] - lows[arc(v, u)]
-                    : highs[arc(u, v)] - amounts[arc(u, v)];
+            int back = arc(v, u);
+            int ahead = arc(u, v);
+            return canTakeBack(back) ? amounts[back] - lows[back] : highs[ahead] - amounts[ahead];
         }
 
         long price(int u, int v) {
-            return canTakeBack(u, v) ? -prices[arc(v, u)] : prices[arc(u, v)];
+            int back = arc(v, u);
+            return canTakeBack(back) ? -prices[back] : prices[arc(u, v)];
         }
 
-        boolean canTakeBack(int u, int v) {
-            return amounts[arc(v, u)] > lows[arc(v, u)];
+        boolean canTakeBack(int arc) {
+            return amounts[arc] > lows[arc];
         }
 
         static int arc(int from, int to) {

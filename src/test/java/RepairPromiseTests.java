@@ -177,6 +177,10 @@ public final class RepairPromiseTests {
         due.is("33: totals", ruled(with(0, 0), "*a<=4", "*a>=5").repairCost(), NONE);
         due.is("33: transit more", ruled(with(0, 0), "~b>=1").repairCost(), NONE);
         due.is("33: transit kept", ruled(with(0, 0), "~b=0").repairCost(), 0);
+        CutRepairer w = ruled(with(0, 0, 0, 0, 0), "*a=5000");
+        due.is("33: total of five", w.repairCost(), 500000);
+        w.reset(2);
+        due.is("33: total of two afterwards", ruled(w, "*a>=2001").repairCost(), NONE);
         CutRepairer x = ruled(with(50, 0), "~a<=4");
         x.send(0, 1, 0, 5);
         due.is("33: transit at the empty cut", x.repairCost(), 0);
@@ -568,6 +572,7 @@ public final class RepairPromiseTests {
         x.send(1, 2, 0, 1);
         x.receive(0, 1);
         x.change(2, 1, 8);
+        x.send(2, 0, 1, 3);
         Bench.cutAt(x, 1, 1, 0);
         return ruled(x, "2a=9", "*b<=30");
     }
@@ -575,12 +580,12 @@ public final class RepairPromiseTests {
     private static void promise38Restore() {
         CutRepairer x = busy();
         String before = Told.system(x);
-        due.is("38: apply", x.apply(false), 3);
+        due.is("38: apply", x.apply(false), 4);
         x.change(0, 0, 3);
         x.setCut(0, 1);
         x.beginSnapshot(2);
         x.receive(1, 2);
-        due.is("38: restore", x.restore(), 5);
+        due.is("38: restore", x.restore(), 6);
         due.is("38: all as before", Told.system(x).equals(before) ? 1 : 0, 1);
         CutRepairer y = busy();
         y.apply(true);
@@ -598,17 +603,17 @@ public final class RepairPromiseTests {
         due.is("38: nothing yet", x.restore(), NONE);
         x.apply(false);
         due.is("38: there is", x.count(7), 1);
-        due.is("38: once", x.restore(), 5);
+        due.is("38: once", x.restore(), 6);
         due.is("38: there is no more", x.count(7), 0);
         due.is("38: twice", x.restore(), NONE);
-        due.is("38: events stay", x.count(1), 5);
+        due.is("38: events stay", x.count(1), 6);
         x.apply(false);
         x.reset(3);
         due.is("38: not behind reset", x.restore(), NONE);
         CutRepairer y = busy();
         y.apply(false);
         due.is("38: a reset that fails forgets nothing", y.reset(9), BAD_VALUE);
-        due.is("38: so it can be restored", y.restore(), 5);
+        due.is("38: so it can be restored", y.restore(), 6);
     }
 
     private static void promise38RestoreLeavesRulesCostsAndText() {
