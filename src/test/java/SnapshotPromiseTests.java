@@ -26,6 +26,7 @@ public final class SnapshotPromiseTests {
         promise20OrphansOfOldMessages();
         promise21LowerCut();
         promise22RaiseCut();
+        promise22NoMessagesFromBeforeReset();
         promise23StockAtCut();
         promise23StockAtCutAfterApply();
         promise24InTransit();
@@ -267,6 +268,38 @@ public final class SnapshotPromiseTests {
         due.is("22: all", x.raiseCut(), 6);
         due.is("22: all in", x.count(6), 9);
         due.is("22: again", x.raiseCut(), 0);
+    }
+
+    /** Two messages, sent by the events 0 and 1 and received by 2 and 3; then a reset, and other events 0 to 3. */
+    private static CutRepairer otherEventsAfterReset() {
+        CutRepairer x = new CutRepairer();
+        x.setStock(0, 0, 50);
+        x.send(0, 1, 0, 10);
+        x.send(0, 1, 0, 11);
+        x.receive(1, 0);
+        x.receive(1, 0);
+        x.reset(3);
+        x.setStock(0, 0, 50);
+        x.send(0, 2, 0, 12);
+        x.change(0, 0, 1);
+        x.receive(2, 0);
+        x.change(1, 0, 1);
+        return x;
+    }
+
+    private static void promise22NoMessagesFromBeforeReset() {
+        CutRepairer x = otherEventsAfterReset();
+        Bench.cutAt(x, 0, 1, 1);
+        due.is("20: one orphan", x.orphans(), 1);
+        due.is("21: one event less", x.lowerCut(), 1);
+        due.is("21: the change stays", x.cut(1), 1);
+        Bench.cutAt(x, 0, 1, 1);
+        due.is("22: one event more", x.raiseCut(), 1);
+        due.is("22: the send alone", x.cut(0), 1);
+        Bench.cutAt(x, 2, 0, 0);
+        due.is("24: none on its way to 1", x.inTransit(0, 1, -1, 0), 0);
+        due.is("24: so there is no first one", x.inTransit(0, 1, 0, 0), NONE);
+        due.is("24: one on its way to 2", x.inTransit(0, 2, -1, 0), 1);
     }
 
     private static void promise23StockAtCut() {
