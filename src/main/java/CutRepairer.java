@@ -37,6 +37,9 @@ public final class CutRepairer {
     private static final int AT_MOST = 0;
     private static final int AT_LEAST = 1;
     private static final int EQUAL = 2;
+    // No subject of a rule comes near these values.
+    private static final int BELOW_ALL = -1000000;
+    private static final int ABOVE_ALL = 1000000;
 
     // Inside the class: no such event, message, marker, number or fault.
     private static final int NOTHING = -1;
@@ -1171,11 +1174,11 @@ public final class CutRepairer {
         }
 
         int lowest(int rule) {
-            return relations[rule] == AT_MOST ? Integer.MIN_VALUE / 2 : numbers[rule];
+            return relations[rule] == AT_MOST ? BELOW_ALL : numbers[rule];
         }
 
         int highest(int rule) {
-            return relations[rule] == AT_LEAST ? Integer.MAX_VALUE / 2 : numbers[rule];
+            return relations[rule] == AT_LEAST ? ABOVE_ALL : numbers[rule];
         }
     }
 
@@ -1263,7 +1266,7 @@ public final class CutRepairer {
         static final int NODES = MOST_PROCESSES + 2;
         static final int UNLIMITED = 1000000;
         static final int MOST_PUSHES = 1000000;
-        static final long UNREACHED = Long.MAX_VALUE / 4;
+        static final long UNREACHED = 1L << 60;
         // 20 moves, 5 grants and 5 burns have a bit each below the cost.
         static final int COST_SHIFT = 30;
 

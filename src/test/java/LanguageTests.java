@@ -14,8 +14,7 @@ public final class LanguageTests {
         "instanceof", "Thread", "Random", "System.nanoTime", "System.currentTimeMillis", "System.out", "System.err",
         "System.getenv", "System.getProperty", "System.exit", "Object", "Exception", "RuntimeException", "Exact",
         "hashCode", "equals", "toString", "Map", "HashMap", "Set", "goto");
-    private static final List<String> LIBRARY = List.of("System.arraycopy", "Arrays.fill", "Math.min", "Math.max",
-        "Integer.MAX_VALUE", "Integer.MIN_VALUE", "Long.MAX_VALUE");
+    private static final List<String> LIBRARY = List.of("System.arraycopy", "Arrays.fill", "Math.min", "Math.max");
 
     private static final Due due = new Due();
 
