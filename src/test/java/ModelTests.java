@@ -394,7 +394,10 @@ public final class ModelTests {
 
     private void same(String call, int answer, int wanted) {
         calls++;
-        run.append("\n  ").append(call).append(" -> ").append(answer);
-        due.is(call, answer, wanted);
+        // The last calls of a run may be some more than an object is granted: what these answer is free.
+        if (calls <= CALLS) {
+            run.append("\n  ").append(call).append(" -> ").append(answer);
+            due.is(call, answer, wanted);
+        }
     }
 }

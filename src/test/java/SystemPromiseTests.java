@@ -501,28 +501,28 @@ public final class SystemPromiseTests {
     }
 
     private static void errorsChangeNothing() {
-        unchanged("reset", x -> due.is("reset", x.reset(6), BAD_VALUE));
-        unchanged("setStock", x -> due.is("setStock", x.setStock(0, 0, 1), NOT_NOW));
-        unchanged("change", x -> due.is("change", x.change(2, 1, -100), NOT_POSSIBLE));
-        unchanged("change", x -> due.is("change", x.change(2, 1, 0), BAD_VALUE));
-        unchanged("send", x -> due.is("send", x.send(0, 1, 0, 100), NOT_POSSIBLE));
-        unchanged("send", x -> due.is("send", x.send(0, 1, 2, 1), UNKNOWN));
-        unchanged("receive", x -> due.is("receive", x.receive(0, 0), UNKNOWN));
-        unchanged("receive", x -> due.is("receive", x.receive(0, 2), NONE));
-        unchanged("inChannel", x -> due.is("inChannel", x.inChannel(0, 1, 7, 0), NONE));
-        unchanged("event", x -> due.is("event", x.event(9, 0), UNKNOWN));
-        unchanged("clock", x -> due.is("clock", x.clock(0, 9), UNKNOWN));
-        unchanged("order", x -> due.is("order", x.order(0, 9), UNKNOWN));
-        unchanged("count", x -> due.is("count", x.count(8), BAD_VALUE));
-        unchanged("beginSnapshot", x -> due.is("beginSnapshot", x.beginSnapshot(0), NOT_NOW));
-        unchanged("takeSnapshot", x -> due.is("takeSnapshot", x.takeSnapshot(), NOT_NOW));
-        unchanged("setCut", x -> due.is("setCut", x.setCut(0, 2), BAD_VALUE));
-        unchanged("inTransit", x -> due.is("inTransit", x.inTransit(0, 1, -2, 0), BAD_VALUE));
-        unchanged("removeRule", x -> due.is("removeRule", x.removeRule(2), UNKNOWN));
-        unchanged("setMoveCost", x -> due.is("setMoveCost", x.setMoveCost(0, 1, 0), BAD_VALUE));
-        unchanged("setOutsideCosts", x -> due.is("setOutsideCosts", x.setOutsideCosts(1, 0), BAD_VALUE));
-        unchanged("setOutsideCosts", x -> due.is("setOutsideCosts", x.setOutsideCosts(1001, 1), BAD_VALUE));
-        unchanged("restore", x -> due.is("restore", x.restore(), NONE));
+        unchanged("2: reset", x -> due.is("2: reset", x.reset(6), BAD_VALUE));
+        unchanged("3: setStock", x -> due.is("3: setStock", x.setStock(0, 0, 1), NOT_NOW));
+        unchanged("4: change", x -> due.is("4: change", x.change(2, 1, -100), NOT_POSSIBLE));
+        unchanged("4: change", x -> due.is("4: change", x.change(2, 1, 0), BAD_VALUE));
+        unchanged("5: send", x -> due.is("5: send", x.send(0, 1, 0, 100), NOT_POSSIBLE));
+        unchanged("5: send", x -> due.is("5: send", x.send(0, 1, 2, 1), UNKNOWN));
+        unchanged("6: receive", x -> due.is("6: receive", x.receive(0, 0), UNKNOWN));
+        unchanged("6: receive", x -> due.is("6: receive", x.receive(0, 2), NONE));
+        unchanged("8: inChannel", x -> due.is("8: inChannel", x.inChannel(0, 1, 7, 0), NONE));
+        unchanged("9: event", x -> due.is("9: event", x.event(9, 0), UNKNOWN));
+        unchanged("10: clock", x -> due.is("10: clock", x.clock(0, 9), UNKNOWN));
+        unchanged("11: order", x -> due.is("11: order", x.order(0, 9), UNKNOWN));
+        unchanged("12: count", x -> due.is("12: count", x.count(8), BAD_VALUE));
+        unchanged("14: beginSnapshot", x -> due.is("14: beginSnapshot", x.beginSnapshot(0), NOT_NOW));
+        unchanged("17: takeSnapshot", x -> due.is("17: takeSnapshot", x.takeSnapshot(), NOT_NOW));
+        unchanged("18: setCut", x -> due.is("18: setCut", x.setCut(0, 2), BAD_VALUE));
+        unchanged("24: inTransit", x -> due.is("24: inTransit", x.inTransit(0, 1, -2, 0), BAD_VALUE));
+        unchanged("28: removeRule", x -> due.is("28: removeRule", x.removeRule(2), UNKNOWN));
+        unchanged("31: setMoveCost", x -> due.is("31: setMoveCost", x.setMoveCost(0, 1, 0), BAD_VALUE));
+        unchanged("32: setOutsideCosts", x -> due.is("32: setOutsideCosts", x.setOutsideCosts(1, 0), BAD_VALUE));
+        unchanged("32: setOutsideCosts", x -> due.is("32: setOutsideCosts", x.setOutsideCosts(1001, 1), BAD_VALUE));
+        unchanged("38: restore", x -> due.is("38: restore", x.restore(), NONE));
     }
 
     /** Two objects with the same calls tell the same, though the one had a call more that returned an error. */
