@@ -36,14 +36,17 @@ abstract class Edges extends Calls {
         for (Call call : calls) {
             due.is(sentence + call.name(), call.on(story.played()), call.due());
             due.is(sentence + call.name() + " is an error or NONE", call.due() < 0 && call.judged() ? 1 : 0, 1);
-            String difference = before.differenceTo(story.then(call));
-            due.is(sentence + call.name() + " changes nothing, but " + difference, difference.isEmpty() ? 1 : 0, 1);
+            nothing(call.name() + " changes nothing", before.differenceTo(story.then(call)));
         }
     }
 
     /** Two stories that have to end in the same state. */
     static void same(String what, Story one, Story other) {
-        String difference = new Looks(one).differenceTo(other);
+        nothing(what, new Looks(one).differenceTo(other));
+    }
+
+    /** There has to be no difference. */
+    static void nothing(String what, String difference) {
         due.is(sentence + what + ", but " + difference, difference.isEmpty() ? 1 : 0, 1);
     }
 
@@ -59,10 +62,13 @@ abstract class Edges extends Calls {
         return longer;
     }
 
-    /** Something of everything: messages of before the history and of it, markers, a cut, rules, costs, a text. */
+    /**
+     * Something of everything: messages of before the history and of it, markers, a cut, rules, costs, a text; and
+     * behind restore() an old history with messages, markers and a cut, too.
+     */
     static Story busy() {
         return Story.of(setStock(0, 0, 50), setStock(0, 1, 20), setStock(1, 0, 40), setStock(2, 1, 30),
-            send(0, 1, 0, 9), send(0, 2, 1, 4), change(1, 0, -3), setCut(0, 2), apply(false),
+            send(0, 1, 0, 9), send(0, 2, 1, 4), change(1, 0, -3), setCut(0, 2), beginSnapshot(2), apply(false),
             receive(1, 0), change(2, 1, 7), send(1, 2, 0, 11), send(0, 1, 1, 5), beginSnapshot(1), receive(0, 1),
             setCut(0, 1), setCut(1, 2), setMoveCost(0, 1, 3), setOutsideCosts(7, 9))
             .ruled("1a>=48", "*b<=50", "~b=9").typing("2b>=7");
